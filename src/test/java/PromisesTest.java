@@ -321,6 +321,7 @@ public final class PromisesTest {
         same("left of 1", 6, x.litres(0, 1));
         same("left of 3", 3, x.litres(0, 3));
         same("n 0", -1, x.draw(0, 0));
+        same("n 400", 1, x.draw(0, 400));
         same("n 401", -1, x.draw(0, 401));
         same("n least", -1, x.draw(0, MIN));
         same("no cask", -1, x.draw(3, 1));
@@ -425,6 +426,8 @@ public final class PromisesTest {
         same("it stays", 0, x.years(1));
         same("nothing changes", had - 1, x.now(1));
         same("still drawn this YEAR", 1, x.cask(1, 4));
+        same("years() of 0 is not undone: the draw is", 2, x.undo());
+        same("so it has its litre again", had, x.now(1));
         SoleraHouse y = Check.houseOf("angels 0;scale a 1 400;wine a 0 0 400;");
         same("no angels", 29, y.years(29));
         same("all there", 400, y.now(1));
@@ -488,6 +491,10 @@ public final class PromisesTest {
         same("of the first", 1, x.blendAt(0));
         same("3 of 2", 3, x.blend(0, 3, 2));
         same("none of the first", 0, x.blendAt(0));
+        // All 12 of 5 would be 0: 20 litres of 9 and 12 are 8 4/7 and 11 3/7, so 9 of AGE 1.
+        same("n 20", 9, x.blend(1, 20, 0));
+        same("20 of one CASK", 20, x.blendAt(0));
+        x.blend(0, 3, 2);
         same("n 21", -1, x.blend(1, 21, 0));
         same("n 0", -1, x.blend(1, 0, 0));
         same("a 40", -1, x.blend(1, 1, 40));
@@ -497,6 +504,14 @@ public final class PromisesTest {
         same("the latest that was not NONE", 3, x.blendAt(1));
         x.draw(2, 10);
         same("not so many", -1, x.blend(1, 12, 1));
+        // AGES 10, 7, 4, 1 with 2 litres each: 8 litres are 44; 5 litres: 1 1 2 1 is 26, so is 1 2 0 2, none is nearer to 25.
+        SoleraHouse four = Check.houseOf("scale a 4 10;wine a 0 0 2;wine a 1 3 2;wine a 2 6 2;wine a 3 9 2;");
+        same("all of four", 4, four.blend(0, 8, 6));
+        same("5 of four", 1, four.blend(0, 5, 5));
+        int[] best = {1, 1, 2, 1};
+        for (int i = 0; i < 4; i++) {
+            same("blendAt(" + i + ") of four", best[i], four.blendAt(i));
+        }
         // 11 litres: 5 of 4, 6 of 5 are left.
         same("all it has", 5, x.blend(1, 11, 0));
         same("of one CASK", 11, x.blendAt(0));
@@ -590,6 +605,9 @@ public final class PromisesTest {
         same("which", 1, x.stored());
         same("n 0", -1, x.store(0, 1));
         same("n 1000", -1, x.store(1000, 1));
+        same("n 1", 1, x.store(1, 4));
+        SoleraHouse great = Check.houseOf("scale a 3 400;wine a 0 0 400;wine a 1 0 300;wine a 2 0 400;");
+        same("n 999", 3, great.store(999, 10));
         same("a 40", -1, x.store(1, 40));
         same("a -1", -1, x.store(1, -1));
         // 5, 9, 3, 6: two for 11: 9 and 3 (6), 5 and 9 (3): the least as bits.
@@ -687,6 +705,10 @@ public final class PromisesTest {
         }
         same("the rest of the years", 33, one.drawn(39, 7));
         same("none at 39", 0, one.drawn(1, 7));
+        SoleraHouse long39 = Check.houseOf("year 0;scale a 1 10;");
+        same("39 years", 39, long39.drawn(39, 7));
+        same("none to undo at 39", 0, long39.drawn(1, 7));
+        same("but the one", 0, long39.undo());
         SoleraHouse none = new SoleraHouse();
         same("no SCALES: the YEARS alone", 2, none.drawn(2, 9));
         same("YEAR 12", 12, none.now(0));
