@@ -84,13 +84,14 @@ public final class ModelTest {
         if (one(3)) {
             line(t, "most", one(2) ? any(1, 60) : any(1, 400));
         }
-        int scales = one(10) ? 6 : any(0, 5);
+        boolean greatest = one(10);
+        int scales = greatest ? 5 : one(10) ? 6 : any(0, 5);
         int[] sizes = new int[scales];
         int[] holds = new int[scales];
         for (int s = 0; s < scales; s++) {
             String name = NAMES[(s + random.nextInt(one(9) ? 3 : 1)) % NAMES.length];
             names.add(name);
-            sizes[s] = any(1, 4);
+            sizes[s] = greatest ? 4 : any(1, 4);
             holds[s] = one(2) ? any(10, 40) : any(10, 400);
             line(t, "scale", name, sizes[s], holds[s]);
             wines(t, s, sizes[s], holds[s], one(3) ? 6 : 2);

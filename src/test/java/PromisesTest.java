@@ -39,6 +39,7 @@ public final class PromisesTest {
         all.sentenceFaults();
         all.images();
         all.counts();
+        all.greatest();
         all.t.close("PromisesTest");
     }
 
@@ -985,5 +986,46 @@ public final class PromisesTest {
         same("the YEAR at first", 5, x.count(4));
         x.feed(1, 2, 3, 4, 5);
         same("bytes of the tape", 20, x.count(5));
+    }
+
+    private void greatest() {
+        SoleraHouse x = Check.houseOf("year 0;angels 0;scale a 4 50;scale b 4 50;scale c 4 50;scale d 4 50;scale e 4 400;");
+        same("20 CASKS", 20, x.count(1));
+        same("all empty", 0xfffff, x.now(3));
+        same("top", 0, x.top());
+        same("the last four full", 0xf0000, x.now(2));
+        same("1600 litres", 1600, x.scale(4, 2));
+        x.years(1);
+        for (int s = 3; s >= 0; s--) {
+            same("run " + s, 0, x.run(s));
+            same("but the next is empty then", s == 3 ? 1400 : 0, x.scale(s + 1, 2));
+            same("from the one behind", 0, s == 3 ? 0 : x.run(s + 1));
+            for (int i = s + 2; i < 4; i++) {
+                same("and on", 0, x.run(i));
+            }
+        }
+        same("all but the last are full", 0xffff, x.now(2));
+        same("800 are left", 800, x.scale(4, 2));
+        same("vintage 0 is all over", 0xfffff, x.where(0));
+        same("top again", 0, x.top());
+        same("all full", 0xfffff, x.now(2));
+        same("last four have this YEAR's", 0xf0000, x.where(1));
+        same("older", 1600, x.older(1));
+        same("store 999: 200 of each of the last four, 50 of four more", 8, x.store(999, 1));
+        same("as bits", 0xf000f, x.stored());
+        same("store 950", 7, x.store(950, 1));
+        same("as bits", 0xf0007, x.stored());
+        same("tag", "e cask 3 400 of 400".length(), x.tag(19));
+        same("its NUMBER", '3', x.byteAt(7));
+        same("sentence", 1, sentence(x, "number > 18"));
+        same("the last", 19, x.said(0));
+        same("tip out of the last", 3, x.tip(19, 0, 400));
+        same("draw of the last", 0, x.draw(19, 400));
+        same("200 of 0", 200, x.bottle(0));
+        same("ripe", 1, x.ripe(0, 2));
+        same("plan", 1, x.plan(0, 2));
+        t.truth("odds of the last", true, x.odds(19, 20, 1) >= 0);
+        same("drawn", 38, x.drawn(39, 3));
+        same("which of all", 0, which(x, 39, 200));
     }
 }
