@@ -1536,11 +1536,12 @@ public final class SoleraHouse {
         boolean readRest(Reader in, Layout layout) {
             switch (words[lines]) {
                 case W_DRAW:
-                    return readCask(in, layout) && readAmount(in, MOST_LITRES);
+                    return readCask(in, layout, scales, numbers) && readAmount(in, MOST_LITRES);
                 case W_RUN:
-                    return readScale(in, layout);
+                    return readScale(in, layout, scales);
                 case W_TIP:
-                    return readCask(in, layout) && readOther(in, layout) && readAmount(in, MOST_LITRES);
+                    return readCask(in, layout, scales, numbers) && readCask(in, layout, otherScales, otherNumbers)
+                        && readAmount(in, MOST_LITRES);
                 case W_YEARS:
                     return readAmount(in, LAST_YEAR);
                 default:
@@ -1548,36 +1549,19 @@ public final class SoleraHouse {
             }
         }
 
-        boolean readScale(Reader in, Layout layout) {
+        boolean readScale(Reader in, Layout layout, int[] scaleRow) {
             if (!in.takeScale(layout)) {
                 return false;
             }
-            scales[lines] = in.taken;
+            scaleRow[lines] = in.taken;
             return true;
         }
 
-        boolean readCask(Reader in, Layout layout) {
-            if (!in.takeScale(layout)) {
+        boolean readCask(Reader in, Layout layout, int[] scaleRow, int[] numberRow) {
+            if (!readScale(in, layout, scaleRow) || !in.takeNumber(0, CASKS_OF_SCALE - 1)) {
                 return false;
             }
-            scales[lines] = in.taken;
-            if (!in.takeNumber(0, CASKS_OF_SCALE - 1)) {
-                return false;
-            }
-            numbers[lines] = in.taken;
-            return true;
-        }
-
-        /** The second CASK of a LINE. */
-        boolean readOther(Reader in, Layout layout) {
-            if (!in.takeScale(layout)) {
-                return false;
-            }
-            otherScales[lines] = in.taken;
-            if (!in.takeNumber(0, CASKS_OF_SCALE - 1)) {
-                return false;
-            }
-            otherNumbers[lines] = in.taken;
+            numberRow[lines] = in.taken;
             return true;
         }
 
