@@ -220,6 +220,12 @@ public final class ActBoundsTest {
         t.same("the full one nothing", 10, left.litres(1, 0));
         t.same("the third gets 2", 1, left.litres(2, 2));
         t.same("and not 1", 0, left.litres(2, 1));
+        // The like with VINTAGE 0.
+        SoleraHouse first = Check.houseOf("scale a 2 10;scale b 1 10;wine a 0 5 9;wine a 1 5 9;wine b 0 0 1;wine b 0 1 1;");
+        first.run(0);
+        t.same("the first gets 0", 1, first.litres(0, 0));
+        t.same("the second gets 1", 1, first.litres(1, 1));
+        t.same("and not 0", 0, first.litres(1, 0));
         // Mix: 4 of 1, 2 of 2. The first lacks 1: 4/6 and 2/6; then 3 and 2 are left, the second lacks 3: 9/5 and 6/5.
         SoleraHouse more = Check.houseOf("scale a 3 10;scale b 1 10;wine a 0 0 9;wine a 1 0 7;wine a 2 0 8;wine b 0 1 4;wine b 0 2 2;");
         more.run(0);
@@ -557,6 +563,8 @@ public final class ActBoundsTest {
         x.years(4);
         x.draw(0, 10);
         sentence(x, "full");
+        // Tried and refused ahead of the HOUSE: nothing of that may be left in it either.
+        t.same("refused", 1, x.draw(0, 400));
         t.same("another HOUSE", 1, house(x, "scale a 1 10;"));
         int[] now = {10, 0, 0, 1, 0, 0, 0};
         for (int i = 0; i < 7; i++) {
@@ -629,6 +637,21 @@ public final class ActBoundsTest {
         x.restore(0);
         t.same("the later image is kept alone", 49, x.cask(0, 2));
         t.truth("a FAULT's kind stays", true, faultStays(x));
+        SoleraHouse acts = caskOf(100);
+        acts.draw(0, 1);
+        acts.image(0);
+        acts.draw(0, 2);
+        acts.years(1);
+        t.truth("restore", true, acts.restore(0));
+        t.same("nothing can be undone, not even what the image has", -1, acts.undo());
+        t.same("99", 99, acts.cask(0, 2));
+        acts.draw(0, 3);
+        t.same("a later act can", 0, acts.undo());
+        t.same("and no more", -1, acts.undo());
+        t.same("99 again", 99, acts.cask(0, 2));
+        acts.draw(0, 4);
+        t.truth("no such image", false, acts.restore(1));
+        t.same("leaves what can be undone", 0, acts.undo());
     }
 
     private boolean faultStays(SoleraHouse x) {

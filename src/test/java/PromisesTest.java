@@ -199,17 +199,17 @@ public final class PromisesTest {
     }
 
     private void longTexts() {
+        fault(Check.houseOf(BODEGA), padded("", 901), 1, 900);
+        fault(Check.houseOf(BODEGA), padded("year 5;", 901), 1, 900);
+        fault(Check.houseOf(BODEGA), padded("year 5; ", 901), 1, 900);
+        fault(Check.houseOf(BODEGA), padded("", 890) + "year 5;" + padded("", 20), 1, 900);
+        fault(Check.houseOf(BODEGA), padded("year 30;", 901), 2, 898);
+        fault(Check.houseOf(BODEGA), padded("", 898) + "angelsxyz", 1, 898);
+        fault(Check.houseOf(BODEGA), padded("", 898) + "angels 10;", 1, 900);
+        fault(Check.houseOf(BODEGA), padded("", 899) + "foo", 1, 899);
+        fault(Check.houseOf(BODEGA), padded("", 894) + "year 300;", 2, 899);
+        fault(Check.houseOf(BODEGA), padded("", 894) + "year 3000;", 1, 899);
         SoleraHouse x = Check.houseOf(BODEGA);
-        fault(x, padded("", 901), 1, 900);
-        fault(x, padded("year 5;", 901), 1, 900);
-        fault(x, padded("year 5; ", 901), 1, 900);
-        fault(x, padded("", 890) + "year 5;" + padded("", 20), 1, 900);
-        fault(x, padded("year 30;", 901), 2, 898);
-        fault(x, padded("", 898) + "angelsxyz", 1, 898);
-        fault(x, padded("", 898) + "angels 10;", 1, 900);
-        fault(x, padded("", 899) + "foo", 1, 899);
-        fault(x, padded("", 894) + "year 300;", 2, 899);
-        fault(x, padded("", 894) + "year 3000;", 1, 899);
         same("900 bytes", 1, house(x, padded("year 5;", 900)));
         same("fits", 5, x.now(0));
         same("400 bytes", -1, book(x, 0, padded("years 1;", 400)));
@@ -995,6 +995,7 @@ public final class PromisesTest {
         same("top", 0, x.top());
         same("the last four full", 0xf0000, x.now(2));
         same("1600 litres", 1600, x.scale(4, 2));
+        same("of all 20 CASKS", 1600, x.now(1));
         x.years(1);
         for (int s = 3; s >= 0; s--) {
             same("run " + s, 0, x.run(s));

@@ -190,6 +190,7 @@ public final class TextBoundsTest {
         wrong(HOUSE, five + "scale c 1 10;", 4, 65);
         wrong(HOUSE, five + "scale 9", 4, 65);
         right(HOUSE, five + "wine g 0 10 10;");
+        wrong(HOUSE, five + "wine h 0 10 10;", 3, 70);
         right(HOUSE, five + "most 5;");
     }
 
@@ -477,6 +478,11 @@ public final class TextBoundsTest {
         saidIs(x, "empty or in b or full and not full", 1, 2);
         saidIs(x, "not not not empty", 0, 2);
         saidIs(x, "full and empty");
+        // 20 ONES, each of which matters.
+        saidIs(x, times(19, "full or ") + "empty", 0, 1, 2);
+        saidIs(x, times(18, "full or ") + "not full", 0, 1, 2);
+        saidIs(x, times(19, "in a and ") + "empty", 1);
+        saidIs(x, times(6, "(in b and full)or ") + "empty", 1, 2);
     }
 
     private void sentenceOfEdges() {
