@@ -3,12 +3,14 @@ public final class TextBoundsTest {
     private static final String[] RESERVED = ("scale wine year angels most draw run top tip years "
         + "or and not full empty mixed in has litres age drawn number").split(" ");
 
-    private final Check t = new Check();
-    // A text is judged by one of three calls; how far its answer to a FAULT is from the place tells them apart.
+    // Which call judges a text.
     private static final int HOUSE = 1;
     private static final int BOOK = 2;
     private static final int SENTENCE = 3;
+    // The HOUSE ahead of each text.
     private static final String BESIDE = "scale a 4 10;scale b 1 10;";
+
+    private final Check t = new Check();
 
     public static void main(String[] args) {
         TextBoundsTest all = new TextBoundsTest();
@@ -95,7 +97,7 @@ public final class TextBoundsTest {
         right(HOUSE, "scale zzzzzzz 1 10;");
         wrong(HOUSE, "scale zzzzzzzz 1 10;", 1, 6);
         wrong(HOUSE, "scale " + times(60, "z") + " 1 10;", 1, 6);
-        // 13 letters 'a' and more would be other WORDS by a code that runs over.
+        // 14 letters would run over a code of 5 bits each.
         wrong(HOUSE, "scale " + times(14, "a") + " 1 10;", 1, 6);
         wrong(HOUSE, "scale a1 1 10;", 1, 6);
         wrong(HOUSE, "scale 1a 1 10;", 1, 6);
@@ -282,7 +284,7 @@ public final class TextBoundsTest {
         t.same("no SCALES", 0, x.count(0));
         t.same("no CASKS", 0, x.count(1));
         t.same("one LINE", 1, judge(HOUSE, x, "most 9;"));
-        // The shortest LINE has 7 bytes, and is told once; wine has 13: 4 litres by 1 each fill up what bytes there are.
+        // A HOUSE's LINES are bounded by its bytes alone: these have 797.
         String lines = "scale c 4 400;" + times(59, "wine c 0 0 1;") + "most 9;" + "angels 1;";
         t.same("62 LINES", 62, judge(HOUSE, x, lines));
         t.same("all are read", 59, x.litres(0, 0));
