@@ -40,6 +40,7 @@ public final class PromisesTest {
         all.images();
         all.counts();
         all.greatest();
+        all.usedFor512Calls();
         all.t.close("PromisesTest");
     }
 
@@ -1028,5 +1029,18 @@ public final class PromisesTest {
         t.truth("odds of the last", true, x.odds(19, 20, 1) >= 0);
         same("drawn", 38, x.drawn(39, 3));
         same("which of all", 0, which(x, 39, 200));
+    }
+
+    /** The 512th call of an object is the last one that is promised; the first four make its HOUSE. */
+    private void usedFor512Calls() {
+        SoleraHouse x = new SoleraHouse();
+        same("call 4", 1, house(x, "scale a 1 10;"));
+        for (int call = 5; call < 512; call += 2) {
+            same("call " + call, 1, x.years(1));
+            if (call < 511) {
+                same("call " + (call + 1), 0, x.undo());
+            }
+        }
+        same("call 512", 11, x.now(0));
     }
 }
